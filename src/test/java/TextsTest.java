@@ -1,0 +1,321 @@
+// Promises 33 to 40: steps taken back, the tape, texts with reasons, the image, what is counted.
+public final class TextsTest {
+    private static int wrong = 0;
+
+    private static void due(String call, long got, long want) {
+        if (got != want) {
+            wrong++;
+            System.out.println(call + " answered " + got + ", due is " + want);
+        }
+    }
+
+    private static int read(QuasiSums x, int r, String text) {
+        for (int i = 0; i < text.length(); i++) {
+            due("feed", x.feed(text.charAt(i)), i + 1);
+        }
+        return x.read(r);
+    }
+
+    private static void dueNumbers(String what, QuasiSums x, int r, long... numbers) {
+        due(what + ": how many", x.told(r, 1), numbers.length);
+        for (int c = 0; c < numbers.length; c++) {
+            due(what + ": number " + c, x.of(r, c), numbers[c]);
+        }
+    }
+
+    private static void dueTrouble(String what, QuasiSums x, int term, int sort, int number) {
+        due(what + ": troubles", x.count(2), 2);
+        due(what + ": first sort", x.why(0, 0), 2);
+        due(what + ": term", x.why(0, 1), term);
+        due(what + ": second sort", x.why(1, 0), sort);
+        due(what + ": number", x.why(1, 1), number);
+        due(what + ": no third", x.why(2, 0), -2);
+    }
+
+    private static void dueFault(String text, int fault, int term) {
+        QuasiSums x = new QuasiSums();
+        due(text, read(x, 0, text), -100 - fault);
+        dueTrouble(text, x, term, 1, fault);
+        due(text + ": tape", x.count(1), 0);
+        due(text + ": steps", x.count(0), 0);
+    }
+
+    private static void dueUnlike(String text, int term, int together) {
+        QuasiSums x = new QuasiSums();
+        due(text, read(x, 0, text), -5);
+        dueTrouble(text, x, term, 3, together);
+        due(text + ": tape", x.count(1), 0);
+        due(text + ": weight", x.told(0, 0), 0);
+        due(text + ": steps", x.count(0), 0);
+    }
+
+    private static void steps() {
+        QuasiSums x = new QuasiSums();
+        due("none", x.back(), -5);
+        x.zero(0, 2);
+        x.put(0, 1, 5);
+        x.fundamental(0, 0, 3);
+        x.sum(1, 0, 0);
+        x.multiply(2, 0, 1);
+        x.antipode(3, 0);
+        x.made(2);
+        due("seven", x.count(0), 7);
+        due("back made", x.back(), 6);
+        due("back made", x.told(2, 0), 4);
+        due("back antipode", x.back(), 5);
+        due("back antipode", x.told(3, 0), 0);
+        due("back multiply", x.back(), 4);
+        due("back multiply", x.told(2, 0), 0);
+        due("back sum", x.back(), 3);
+        due("back sum", x.told(1, 0), 0);
+        due("back fundamental", x.back(), 2);
+        dueNumbers("back fundamental", x, 0, 0, 5);
+        due("back put", x.back(), 1);
+        dueNumbers("back put", x, 0, 0, 0);
+        due("back zero", x.back(), 0);
+        due("back zero", x.told(0, 0), 0);
+        due("none", x.back(), -5);
+        due("read", read(x, 0, "M(2)"), 2);
+        x.store(0, 0, 0, 0);
+        x.fetch(0, 0, 3);
+        due("two", x.count(0), 2);
+        due("back fetch", x.back(), 1);
+        due("back fetch", x.told(3, 0), 0);
+        due("back read", x.back(), 0);
+        due("back read", x.told(0, 0), 0);
+        due("the rack stays", x.holds(0, 0), 0);
+    }
+
+    private static void mostSteps() {
+        QuasiSums x = new QuasiSums();
+        for (int v = 1; v <= 9; v++) {
+            x.put(0, 0, v);
+            due("steps", x.count(0), Math.min(v, 8));
+        }
+        for (int left = 7; left >= 0; left--) {
+            due("back", x.back(), left);
+            due("number", x.of(0, 0), left + 1);
+        }
+        due("the eldest is none any more", x.back(), -5);
+        due("first stays", x.of(0, 0), 1);
+        x.put(0, 0, Long.MAX_VALUE);
+        due("over is no step", x.fundamental(0, 0, 1), -9);
+        due("refused is no step", x.put(0, 1, 1), -1);
+        due("one", x.count(0), 1);
+        due("back leaves why", x.back(), 0);
+        due("back leaves why", x.count(2), 1);
+    }
+
+    private static void tape() {
+        QuasiSums x = new QuasiSums();
+        due("31", x.feed(31), -1);
+        due("127", x.feed(127), -1);
+        due("-1", x.feed(-1), -1);
+        due("32 + 256", x.feed(32 + 256), -1);
+        due("32", x.feed(32), 1);
+        due("126", x.feed(126), 2);
+        due("two", x.count(1), 2);
+        due("wipe", x.wipe(), 2);
+        due("wipe", x.wipe(), 0);
+        for (int i = 1; i <= 80; i++) {
+            due("feed", x.feed('M'), i);
+        }
+        due("full", x.feed('M'), -3);
+        due("bad ahead of full", x.feed(0), -1);
+        due("wipe", x.wipe(), 80);
+        StringBuilder terms = new StringBuilder("M()");
+        for (int n = 1; n < 20; n++) {
+            terms.append("-M()");
+        }
+        due("80 bytes", read(x, 0, "2" + terms), 0);
+        due("80 bytes", x.of(0, 0), 2 - 19);
+        due("80 bytes, a term lacks", read(x, 0, terms + "+"), -180);
+        dueTrouble("80 bytes, a term lacks", x, 20, 1, 80);
+    }
+
+    private static void texts() {
+        QuasiSums x = new QuasiSums();
+        due("one", read(x, 0, "M(1,2,1)"), 4);
+        dueNumbers("one", x, 0, 0, 0, 0, 0, 0, 1, 0, 0);
+        due("F", read(x, 0, "12F(2,1)-0003M(3)+0M(1,2)"), 3);
+        dueNumbers("F", x, 0, -3, 0, 12, 12);
+        due("F with -", read(x, 0, "M(1,1)-20F(2)"), 2);
+        dueNumbers("F with -", x, 0, -20, -19);
+        due("none", read(x, 0, "7M()-F()"), 0);
+        dueNumbers("none", x, 0, 6);
+        due("finest", read(x, 0, "9999M(1,1,1,1,1,1)"), 6);
+        due("finest", x.of(0, 31), 9999);
+        due("no why", x.count(2), 0);
+        due("five steps", x.count(0), 5);
+        x.feed('M');
+        due("bad register", x.read(4), -1);
+        due("bad register", x.read(-1), -1);
+        due("the tape stays", x.wipe(), 1);
+        due("why stays", x.count(2), 0);
+    }
+
+    private static void faults() {
+        dueFault("", 0, 0);
+        dueFault("+M(1)", 0, 0);
+        dueFault("-M(1)", 0, 0);
+        dueFault(" M(1)", 0, 0);
+        dueFault("m(1)", 0, 0);
+        dueFault("N(1)", 0, 0);
+        dueFault("12", 2, 0);
+        dueFault("12345M(1)", 4, 0);
+        dueFault("1234", 4, 0);
+        dueFault("M", 1, 0);
+        dueFault("M1)", 1, 0);
+        dueFault("MF(1)", 1, 0);
+        dueFault("M(", 2, 0);
+        dueFault("M(,1)", 2, 0);
+        dueFault("M(0)", 2, 0);
+        dueFault("M(7)", 2, 0);
+        dueFault("M(9)", 2, 0);
+        dueFault("M(-1)", 2, 0);
+        dueFault("M(1", 3, 0);
+        dueFault("M(11)", 3, 0);
+        dueFault("M(1 )", 3, 0);
+        dueFault("M(1,", 4, 0);
+        dueFault("M(1,)", 4, 0);
+        dueFault("M(1,,1)", 4, 0);
+        dueFault("M(1,7)", 4, 0);
+        dueFault("M(1)x", 4, 0);
+        dueFault("M(1)M(1)", 4, 0);
+        dueFault("M(1))", 4, 0);
+        dueFault("M()3M()", 3, 0);
+        dueFault("M(1)+", 5, 1);
+        dueFault("M(1)-", 5, 1);
+        dueFault("M(1)++M(1)", 5, 1);
+        dueFault("M(1)+x", 5, 1);
+        dueFault("M(1)-3", 6, 1);
+        dueFault("M(1)-F(2)*", 9, 1);
+        dueFault("M(1)-F(2)+M(", 12, 2);
+        dueFault("M(6,6)+F(1)-12345M(1)", 16, 2);
+    }
+
+    private static void unlike() {
+        dueUnlike("M(6,6)", 0, 12);
+        dueUnlike("M(6,1)", 0, 7);
+        dueUnlike("M(1,1,1,1,1,1,1)", 0, 7);
+        dueUnlike("M(2)+F(1,1)-M(3)+M(4)", 2, 3);
+        dueUnlike("M()+M(1)", 1, 1);
+        dueUnlike("M(1)+M()", 1, 0);
+        dueUnlike("M(1)+0M(6,6,6)", 1, 18);
+        StringBuilder heavy = new StringBuilder("M(6");
+        while (heavy.length() < 79) {
+            heavy.append(",6");
+        }
+        dueUnlike(heavy.append(")").toString(), 0, 39 * 6);
+        QuasiSums x = new QuasiSums();
+        x.put(0, 0, Long.MAX_VALUE);
+        x.fundamental(0, 0, 1);
+        due("why of OVER", x.why(0, 0), 4);
+        read(x, 0, "M(7");
+        dueTrouble("the latest", x, 0, 1, 2);
+        due("read well", read(x, 1, "M(1)"), 1);
+        dueTrouble("read well leaves why", x, 0, 1, 2);
+        x.counts(0, 3);
+        due("counts of one is no OVER", x.count(2), 2);
+        due("OVER again", x.fundamental(0, 0, 1), -9);
+        due("one trouble", x.count(2), 1);
+        due("why -1", x.why(-1, 0), -1);
+        due("why what 2", x.why(0, 2), -1);
+        due("why what -1", x.why(7, -1), -1);
+        due("why 1", x.why(1, 1), -2);
+        due("why most", x.why(Integer.MAX_VALUE, 1), -2);
+    }
+
+    private static void images() {
+        QuasiSums x = new QuasiSums();
+        due("none", x.restore(), -5);
+        read(x, 0, "3M(2,1)");
+        x.zero(3, 5);
+        x.order(3);
+        x.below(2, 3);
+        x.warm(1, 0, 2);
+        x.store(0, 1, 0, 0);
+        x.row(0, 2);
+        x.store(1, 2, 1, 0);
+        due("image", x.image(), 8);
+        due("image keeps steps", x.count(0), 2);
+        x.put(0, 2, 4);
+        x.zero(3, 1);
+        x.order(2);
+        x.below(1, 2);
+        x.warm(1, 0, 2);
+        x.warm(4, 0, 2);
+        x.store(2, 3, 0, 3);
+        x.lay(0, 1, 6);
+        x.row(1, 1);
+        x.feed('M');
+        x.store(1, 2, 1, 0);
+        due("OVER", x.multiply(1, 3, 3), 2);
+        for (int n = 0; n < 2; n++) {
+            due("restore", x.restore(), 8);
+            due("no step", x.count(0), 0);
+            due("no step", x.back(), -5);
+            dueNumbers("restored", x, 0, 0, 0, 3, 0);
+            due("restored", x.told(3, 0), 5);
+            due("restored", x.told(1, 0), 0);
+            due("things", x.count(4), 3);
+            due("2 below 3", x.isBelow(2, 3), 1);
+            due("1 not below 2", x.isBelow(1, 2), 0);
+            due("cells", x.warmth(0), Float.floatToRawIntBits(1f));
+            due("held", x.count(3), 2);
+            due("the row as it was", x.fetch(1, 2, 2), 1);
+            due("the row as it was", x.get(2, 1), 0);
+            due("rows stay", x.get(0, 1), 6);
+            due("rows stay", x.get(1, 0), 0);
+            due("the tape stays", x.count(1), 1);
+            x.zero(0, 1);
+            x.below(3, 1);
+            x.warm(5, 0, 0);
+            x.store(2, 0, 0, 0);
+        }
+        x.zero(0, 6);
+        due("another image", x.image(), 11);
+        x.zero(0, 0);
+        due("restored", x.restore(), 11);
+        due("restored", x.told(0, 0), 6);
+        QuasiSums why = new QuasiSums();
+        why.image();
+        read(why, 0, "M(");
+        why.restore();
+        dueTrouble("restore leaves why", why, 0, 1, 2);
+    }
+
+    private static void counts() {
+        QuasiSums x = new QuasiSums();
+        x.put(0, 0, 1);
+        x.put(0, 0, 2);
+        x.feed('a');
+        x.feed('b');
+        x.feed('c');
+        x.store(0, 0, 0, 0);
+        x.order(5);
+        x.row(0, 0);
+        x.row(2, 3);
+        int[] want = {2, 3, 0, 1, 5, 2};
+        for (int what = 0; what < 6; what++) {
+            due("count " + what, x.count(what), want[what]);
+        }
+        due("count 6", x.count(6), -1);
+        due("count -1", x.count(-1), -1);
+    }
+
+    public static void main(String[] args) {
+        steps();
+        mostSteps();
+        tape();
+        texts();
+        faults();
+        unlike();
+        images();
+        counts();
+        System.out.println(wrong == 0 ? "all answers are as due" : wrong + " answers are not as due");
+        if (wrong != 0) {
+            System.exit(1);
+        }
+    }
+}
