@@ -57,18 +57,18 @@ public final class QuasiSums {
         if (!isNumber(r, c)) {
             return BAD;
         }
-        Exact exact = new Exact();
-        Sum next = registers[r].withFundamental(c, v, exact);
-        return settle(r, next, exact) == OVER ? OVER : 1;
+        Longs longs = new Longs();
+        Sum next = registers[r].withFundamental(c, v, longs);
+        return settle(r, next, longs) == OVER ? OVER : 1;
     }
 
     public long inF(int r, int c) {
         if (!isNumber(r, c)) {
             return VOID;
         }
-        Exact exact = new Exact();
-        long number = registers[r].fundamentalNumber(c, exact);
-        return answer(number, exact);
+        Longs longs = new Longs();
+        long number = registers[r].fundamentalNumber(c, longs);
+        return answer(number, longs);
     }
 
     public int told(int r, int what) {
@@ -106,8 +106,8 @@ public final class QuasiSums {
         if (registers[s].weight != registers[t].weight) {
             return STATE;
         }
-        Exact exact = new Exact();
-        return settle(r, registers[s].plus(registers[t], exact), exact);
+        Longs longs = new Longs();
+        return settle(r, registers[s].plus(registers[t], longs), longs);
     }
 
     public int multiply(int r, int s, int t) {
@@ -117,16 +117,16 @@ public final class QuasiSums {
         if (registers[s].weight + registers[t].weight > HEAVIEST) {
             return STATE;
         }
-        Exact exact = new Exact();
-        return settle(r, registers[s].times(registers[t], exact), exact);
+        Longs longs = new Longs();
+        return settle(r, registers[s].times(registers[t], longs), longs);
     }
 
     public int antipode(int r, int s) {
         if (!within(r, REGISTERS) || !within(s, REGISTERS)) {
             return BAD;
         }
-        Exact exact = new Exact();
-        return settle(r, registers[s].antipodal(exact), exact);
+        Longs longs = new Longs();
+        return settle(r, registers[s].antipodal(longs), longs);
     }
 
     public long cut(int r, int a, int c, int d) {
@@ -144,9 +144,9 @@ public final class QuasiSums {
         if (!within(r, REGISTERS) || !within(k, MOST_LETTERS + 1)) {
             return VOID;
         }
-        Exact exact = new Exact();
-        long number = registers[r].countsWith(k, exact);
-        return answer(number, exact);
+        Longs longs = new Longs();
+        long number = registers[r].countsWith(k, longs);
+        return answer(number, longs);
     }
 
     // ---- the order ----
@@ -219,7 +219,7 @@ public final class QuasiSums {
         }
         // Each laying reads off just one row, rising weakly and strictly at its descents:
         // so the layings are what the order makes, counted with k letters.
-        return (int) things.makes().countsWith(k, new Exact());
+        return (int) things.makes().countsWith(k, new Longs());
     }
 
     // ---- floats ----
@@ -483,15 +483,15 @@ public final class QuasiSums {
     private int addTerms(int r, ArrayList<Term> terms) {
         int weight = terms.isEmpty() ? 0 : terms.get(0).weight;
         Sum all = new Sum(weight);
-        Exact exact = new Exact();
+        Longs longs = new Longs();
         for (int i = 0; i < terms.size(); i++) {
             Term term = terms.get(i);
             if (term.weight > HEAVIEST || term.weight != weight) {
                 return refuseTerm(i, UNLIKE_SORT, term.weight, STATE);
             }
-            term.comesTo(all, exact);
-            if (exact.over) {
-                return refuseTerm(i, OVER_SORT, exact.where, OVER);
+            term.comesTo(all, longs);
+            if (longs.over) {
+                return refuseTerm(i, OVER_SORT, longs.where, OVER);
             }
         }
         become(r, all);
@@ -586,25 +586,25 @@ public final class QuasiSums {
         registers[r] = next;
     }
 
-    private int settle(int r, Sum next, Exact exact) {
-        if (exact.over) {
-            tellOver(exact);
+    private int settle(int r, Sum next, Longs longs) {
+        if (longs.over) {
+            tellOver(longs);
             return OVER;
         }
         become(r, next);
         return next.weight;
     }
 
-    private long answer(long number, Exact exact) {
-        if (exact.over) {
-            tellOver(exact);
+    private long answer(long number, Longs longs) {
+        if (longs.over) {
+            tellOver(longs);
             return VOID;
         }
         return number;
     }
 
-    private void tellOver(Exact exact) {
-        trouble = new Trouble(OVER_SORT, exact.where, null);
+    private void tellOver(Longs longs) {
+        trouble = new Trouble(OVER_SORT, longs.where, null);
     }
 
     /** Compositions of n as bits. */
@@ -676,7 +676,7 @@ public final class QuasiSums {
     }
 
     /** Sums and products that must be longs; keeps where one first was not. */
-    private static final class Exact {
+    private static final class Longs {
         private boolean over = false;
         private int where = 0;
 
@@ -741,16 +741,16 @@ public final class QuasiSums {
             return within(c, numbers.length) ? numbers[c] : 0;
         }
 
-        private void comes(int c, long v, Exact exact) {
+        private void comes(int c, long v, Longs longs) {
             if (within(c, numbers.length)) {
-                numbers[c] = exact.plus(numbers[c], v, c);
+                numbers[c] = longs.plus(numbers[c], v, c);
             }
         }
 
-        private void comesToFiner(int c, long v, Exact exact) {
+        private void comesToFiner(int c, long v, Longs longs) {
             for (int e = 0; e < numbers.length; e++) {
                 if (Bits.isFiner(e, c)) {
-                    comes(e, v, exact);
+                    comes(e, v, longs);
                 }
             }
         }
@@ -771,20 +771,20 @@ public final class QuasiSums {
             return next;
         }
 
-        Sum withFundamental(int c, long v, Exact exact) {
+        Sum withFundamental(int c, long v, Longs longs) {
             Sum next = twin();
-            next.comesToFiner(c, v, exact);
+            next.comesToFiner(c, v, longs);
             return next;
         }
 
-        long fundamentalNumber(int c, Exact exact) {
+        long fundamentalNumber(int c, Longs longs) {
             int length = Bits.lengthOf(weight, c);
             long all = 0;
             for (int b = 0; b < numbers.length; b++) {
                 if (Bits.isFiner(c, b)) {
                     boolean odd = (length - Bits.lengthOf(weight, b)) % 2 != 0;
-                    long number = odd ? exact.otherSign(numbers[b], c) : numbers[b];
-                    all = exact.plus(all, number, c);
+                    long number = odd ? longs.otherSign(numbers[b], c) : numbers[b];
+                    all = longs.plus(all, number, c);
                 }
             }
             return all;
@@ -798,24 +798,24 @@ public final class QuasiSums {
             return found;
         }
 
-        Sum plus(Sum other, Exact exact) {
+        Sum plus(Sum other, Longs longs) {
             Sum both = twin();
             for (int c = 0; c < other.numbers.length; c++) {
-                both.comes(c, other.numbers[c], exact);
+                both.comes(c, other.numbers[c], longs);
             }
             return both;
         }
 
-        Sum times(Sum other, Exact exact) {
+        Sum times(Sum other, Longs longs) {
             Sum product = new Sum(weight + other.weight);
             int[] ways = new int[product.numbers.length];
             for (int c = 0; c < numbers.length; c++) {
                 for (int d = 0; d < other.numbers.length; d++) {
-                    long both = exact.times(numbers[c], other.numbers[d], 100 + c);
+                    long both = longs.times(numbers[c], other.numbers[d], 100 + c);
                     Arrays.fill(ways, 0);
                     shuffle(c, weight, d, other.weight, 0, 0, ways);
                     for (int e = 0; e < ways.length; e++) {
-                        product.comes(e, exact.times(both, ways[e], e), exact);
+                        product.comes(e, longs.times(both, ways[e], e), longs);
                     }
                 }
             }
@@ -845,26 +845,26 @@ public final class QuasiSums {
             }
         }
 
-        Sum antipodal(Exact exact) {
+        Sum antipodal(Longs longs) {
             Sum antipode = new Sum(weight);
             for (int c = 0; c < numbers.length; c++) {
                 boolean odd = Bits.lengthOf(weight, c) % 2 != 0;
-                long number = odd ? exact.otherSign(numbers[c], c) : numbers[c];
+                long number = odd ? longs.otherSign(numbers[c], c) : numbers[c];
                 int turned = Bits.turned(weight, c);
                 for (int e = 0; e < numbers.length; e++) {
                     if (Bits.isFiner(turned, e)) {
-                        antipode.comes(e, number, exact);
+                        antipode.comes(e, number, longs);
                     }
                 }
             }
             return antipode;
         }
 
-        long countsWith(int k, Exact exact) {
+        long countsWith(int k, Longs longs) {
             long all = 0;
             for (int c = 0; c < numbers.length; c++) {
                 long ways = Bits.waysToPick(Bits.lengthOf(weight, c), k);
-                all = exact.plus(all, exact.times(numbers[c], ways, c), c);
+                all = longs.plus(all, longs.times(numbers[c], ways, c), c);
             }
             return all;
         }
@@ -999,9 +999,9 @@ public final class QuasiSums {
                 }
             }
             Sum all = new Sum(size);
-            Exact exact = new Exact();
+            Longs longs = new Longs();
             for (int c = 0; c < times.length; c++) {
-                all.comesToFiner(c, times[c], exact);
+                all.comesToFiner(c, times[c], longs);
             }
             return all;
         }
@@ -1080,11 +1080,11 @@ public final class QuasiSums {
             weight += number;
         }
 
-        void comesTo(Sum all, Exact exact) {
+        void comesTo(Sum all, Longs longs) {
             if (ofF) {
-                all.comesToFiner(bits, times, exact);
+                all.comesToFiner(bits, times, longs);
             } else {
-                all.comes(bits, times, exact);
+                all.comes(bits, times, longs);
             }
         }
     }
