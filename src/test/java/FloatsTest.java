@@ -96,6 +96,13 @@ public final class FloatsTest {
             due("floats", x.warmth(0), Float.floatToRawIntBits(all));
             due("doubles", x.warmth(1), Double.doubleToRawLongBits(allWide));
         }
+        QuasiSums whole = new QuasiSums();
+        whole.put(0, 0, -9);
+        for (int cell = 0; cell < 6; cell++) {
+            due("whole", whole.warm(cell, 0, 0), Float.floatToRawIntBits(-1f));
+            due("whole floats", whole.warmth(0), Float.floatToRawIntBits(-1f - cell));
+            due("whole doubles", whole.warmth(1), Double.doubleToRawLongBits(-1d - cell));
+        }
         due("warmth 2", x.warmth(2), Long.MIN_VALUE);
         due("warmth -1", x.warmth(-1), Long.MIN_VALUE);
     }

@@ -209,6 +209,13 @@ public final class SumsTest {
         want[8] = 35;
         want[2] = 35;
         dueNumbers("M21 M2", y, 2, want);
+        QuasiSums six = with(0, 3, 0, 0, 0, 1);
+        due("M111 M111", six.multiply(1, 0, 0), 6);
+        due("M111 M111 in 111111", six.of(1, 31), 20);
+        due("M111 M111 in 21111", six.of(1, 2 | 4 | 8 | 16), 6);
+        due("M111 M111 in 1122", six.of(1, 1 | 2 | 8), 2);
+        due("M111 M111 in 222", six.of(1, 2 | 8), 1);
+        due("M111 M111 in 33", six.of(1, 4), 0);
         QuasiSums unit = with(0, 0, -3);
         with(unit, 1, 2, 4, 5);
         due("by weight 0", unit.multiply(0, 0, 1), 2);

@@ -261,6 +261,7 @@ public final class TextsTest {
             due("things", x.count(4), 3);
             due("2 below 3", x.isBelow(2, 3), 1);
             due("1 not below 2", x.isBelow(1, 2), 0);
+            due("3 not below 1", x.isBelow(3, 1), 0);
             due("cells", x.warmth(0), Float.floatToRawIntBits(1f));
             due("held", x.count(3), 2);
             due("the row as it was", x.fetch(1, 2, 2), 1);
@@ -268,9 +269,10 @@ public final class TextsTest {
             due("rows stay", x.get(0, 1), 6);
             due("rows stay", x.get(1, 0), 0);
             due("the tape stays", x.count(1), 1);
+            x.warm(5, 0, 2);
+            x.warm(1, 0, 0);
             x.zero(0, 1);
-            x.below(3, 1);
-            x.warm(5, 0, 0);
+            due("below", x.below(3, 1), 3);
             x.store(2, 0, 0, 0);
         }
         x.zero(0, 6);
