@@ -579,6 +579,10 @@ public final class QuasiSums {
     }
 
     private void become(int r, Sum next) {
+        // What leaves a register as it was made nothing otherwise: it is no step.
+        if (registers[r].isLike(next)) {
+            return;
+        }
         steps.add(new Step(r, registers[r]));
         if (steps.size() > MOST_STEPS) {
             steps.remove(0);
@@ -739,6 +743,19 @@ public final class QuasiSums {
 
         long at(int c) {
             return within(c, numbers.length) ? numbers[c] : 0;
+        }
+
+        /** The weight is looked at, too: of weight 0 and of weight 1 there is one number each. */
+        boolean isLike(Sum other) {
+            if (weight != other.weight || numbers.length != other.numbers.length) {
+                return false;
+            }
+            for (int c = 0; c < numbers.length; c++) {
+                if (numbers[c] != other.numbers[c]) {
+                    return false;
+                }
+            }
+            return true;
         }
 
         private void comes(int c, long v, Longs longs) {

@@ -5,7 +5,9 @@ import java.util.Arrays;
 import java.util.Collections;
 import java.util.Deque;
 import java.util.List;
+import java.util.Map;
 import java.util.Random;
+import java.util.TreeMap;
 import java.util.regex.Pattern;
 
 // All promises: long runs of calls, each answer held against a second reading of the document (Model).
@@ -34,6 +36,8 @@ public final class ModelTest {
         List<int[]> why = new ArrayList<>();
         Deque<Object[]> steps = new ArrayDeque<>();
         Object[] image = null;
+        // How many calls left their register as it was.
+        int unmade = 0;
 
         static boolean in(int x, int least, int most) {
             return x >= least && x <= most;
@@ -78,6 +82,10 @@ public final class ModelTest {
         }
 
         void become(int r, int n, long[] numbers) {
+            if (weights[r] == n && Arrays.equals(registers[r], numbers)) {
+                unmade++;
+                return;
+            }
             steps.addLast(new Object[] {r, weights[r], registers[r]});
             if (steps.size() > 8) {
                 steps.removeFirst();
@@ -766,6 +774,7 @@ public final class ModelTest {
     private static final int[] OVERS = new int[200];
     private static int unlikes = 0;
     private static int faults = 0;
+    private static final Map<String, Integer> unmade = new TreeMap<>();
 
     private final Random random;
     private final int run;
@@ -982,7 +991,14 @@ public final class ModelTest {
             int before = calls;
             String method = METHODS[random.nextInt(METHODS.length)];
             List<int[]> whyBefore = model.why;
+            int unmadeBefore = model.unmade;
             call(method);
+            if (model.unmade != unmadeBefore) {
+                unmade.merge(method, 1, Integer::sum);
+            }
+            if (model.unmade != unmadeBefore && calls < CALLS) {
+                due("steps behind " + method, real.count(0), model.count(0));
+            }
             if (model.why != whyBefore && model.why.size() == 1) {
                 OVERS[model.why.get(0)[1]]++;
             }
@@ -1030,7 +1046,8 @@ public final class ModelTest {
         int overs = Arrays.stream(OVERS).sum();
         int ofProducts = Arrays.stream(OVERS, 100, 200).sum();
         System.out.println("OVER " + overs + ", of these products " + ofProducts + ", UNLIKE " + unlikes + ", FAULTS " + faults);
-        if (overs < 1000 || ofProducts < 50 || unlikes < 50 || faults < 50) {
+        System.out.println("left as it was: " + unmade);
+        if (overs < 1000 || ofProducts < 50 || unlikes < 50 || faults < 50 || unmade.size() < 9) {
             wrong++;
             System.out.println("the runs meet too little of this");
         }

@@ -106,6 +106,162 @@ public final class TextsTest {
         due("back leaves why", x.count(2), 1);
     }
 
+    // A register as it was: nothing made otherwise, so no step; the same with other numbers is one.
+    private static void dueNoStep(String call, QuasiSums x, long got, long want) {
+        due(call, got, want);
+        due(call + ": no step", x.count(0), 0);
+        due(call + ": nothing to take back", x.back(), -5);
+    }
+
+    private static void dueOneStep(String call, QuasiSums x, long got, long want) {
+        due(call, got, want);
+        due(call + ": a step", x.count(0), 1);
+        due(call + ": taken back", x.back(), 0);
+    }
+
+    // An image that is restored leaves no steps: so what is made ahead of it does not count.
+    private static QuasiSums withoutSteps(String text) {
+        QuasiSums x = new QuasiSums();
+        if (!text.isEmpty()) {
+            read(x, 0, text);
+        }
+        x.image();
+        x.restore();
+        return x;
+    }
+
+    private static void zeroAsItWas() {
+        QuasiSums x = withoutSteps("");
+        dueNoStep("zero", x, x.zero(0, 0), 0);
+        dueOneStep("zero of another weight", x, x.zero(0, 1), 0);
+        QuasiSums heavy = withoutSteps("M(6)-M(6)");
+        dueNoStep("zero of 6", heavy, heavy.zero(0, 6), 6);
+        QuasiSums light = withoutSteps("M(1)-M(1)");
+        dueOneStep("zero of 0", light, light.zero(0, 0), 1);
+        QuasiSums last = withoutSteps("M(1,1,1,1,1,1)");
+        dueOneStep("zero of the last number", last, last.zero(0, 6), 6);
+        due("taken back", last.of(0, 31), 1);
+    }
+
+    private static void putAsItWas() {
+        QuasiSums x = withoutSteps("5M(2,1)");
+        dueNoStep("put", x, x.put(0, 2, 5), 1);
+        dueNoStep("put 0", x, x.put(0, 3, 0), 1);
+        dueOneStep("put the other sign", x, x.put(0, 2, -5), 1);
+        dueOneStep("put above an int", x, x.put(0, 2, 5 + (1L << 32)), 1);
+        x.put(0, 2, 6);
+        dueStepsTwo(x);
+    }
+
+    private static void dueStepsTwo(QuasiSums x) {
+        due("as it was two calls ahead", x.put(0, 2, 5), 1);
+        due("both are steps", x.count(0), 2);
+        due("back", x.back(), 1);
+        due("back", x.of(0, 2), 6);
+        due("back", x.back(), 0);
+        due("back", x.of(0, 2), 5);
+    }
+
+    private static void fundamentalAsItWas() {
+        QuasiSums x = withoutSteps("5M(2,1)");
+        dueNoStep("fundamental", x, x.fundamental(0, 0, 0), 1);
+        dueOneStep("fundamental of the finest", x, x.fundamental(0, 3, 1), 1);
+        x.put(0, 2, Long.MAX_VALUE);
+        due("0 times is no OVER", x.fundamental(0, 2, 0), 1);
+        due("one step", x.count(0), 1);
+    }
+
+    private static void sumAsItWas() {
+        QuasiSums x = withoutSteps("");
+        dueNoStep("sum of 0", x, x.sum(0, 1, 2), 0);
+        QuasiSums y = withoutSteps("4F(2)");
+        y.zero(1, 2);
+        y.image();
+        y.restore();
+        dueNoStep("0 comes to it", y, y.sum(0, 0, 1), 2);
+        dueNoStep("it comes to 0", y, y.sum(0, 1, 0), 2);
+        dueOneStep("it comes to 0 elsewhere", y, y.sum(1, 0, 1), 2);
+        dueOneStep("twice", y, y.sum(0, 0, 0), 2);
+    }
+
+    private static void multiplyAsItWas() {
+        QuasiSums x = withoutSteps("");
+        dueNoStep("multiply 0", x, x.multiply(3, 1, 2), 0);
+        QuasiSums y = withoutSteps("4F(2)-M(1,1)");
+        y.put(1, 0, 1);
+        y.image();
+        y.restore();
+        dueNoStep("1 times it", y, y.multiply(0, 1, 0), 2);
+        dueNoStep("it times 1", y, y.multiply(0, 0, 1), 2);
+        dueOneStep("itself", y, y.multiply(0, 0, 0), 4);
+        dueOneStep("it times 0", y, y.multiply(0, 0, 2), 2);
+    }
+
+    private static void antipodeAsItWas() {
+        QuasiSums x = withoutSteps("7M()");
+        dueNoStep("antipode of weight 0", x, x.antipode(0, 0), 0);
+        dueOneStep("antipode elsewhere", x, x.antipode(1, 0), 0);
+        QuasiSums y = withoutSteps("M(2)+2M(1,1)");
+        dueNoStep("its own antipode", y, y.antipode(0, 0), 2);
+        QuasiSums z = withoutSteps("M(2)");
+        dueOneStep("another antipode", z, z.antipode(0, 0), 2);
+    }
+
+    private static void madeAsItWas() {
+        QuasiSums x = withoutSteps("M()");
+        dueNoStep("made of no things", x, x.made(0), 0);
+        dueOneStep("made elsewhere", x, x.made(1), 0);
+        QuasiSums y = withoutSteps("F(2)+F(1,1)");
+        y.order(2);
+        dueNoStep("made of two things", y, y.made(0), 2);
+        y.below(1, 2);
+        dueOneStep("made of one below another one", y, y.made(0), 2);
+    }
+
+    private static void readAsItWas() {
+        QuasiSums x = withoutSteps("3M(2,1)+M(3)");
+        dueNoStep("read", x, read(x, 0, "M(3)+M(2,1)+2M(2,1)"), 3);
+        due("the tape is empty", x.count(1), 0);
+        dueOneStep("read another one", x, read(x, 0, "2M(2,1)+M(3)"), 3);
+        dueNoStep("read 0", x, read(x, 3, "0M()"), 0);
+    }
+
+    private static void fetchAsItWas() {
+        QuasiSums x = withoutSteps("3M(2,1)");
+        x.store(0, 0, 0, 0);
+        x.store(2, 3, 0, 1);
+        dueNoStep("fetch where it came from", x, x.fetch(0, 0, 0), 0);
+        dueNoStep("fetch what is like it", x, x.fetch(2, 3, 2), 0);
+        dueOneStep("fetch elsewhere", x, x.fetch(0, 0, 1), 0);
+        x.row(1, 2);
+        x.store(1, 0, 1, 1);
+        dueNoStep("fetch of a row", x, x.fetch(1, 0, 0), 1);
+    }
+
+    private static void nothingMadeOtherwise() {
+        zeroAsItWas();
+        putAsItWas();
+        fundamentalAsItWas();
+        sumAsItWas();
+        multiplyAsItWas();
+        antipodeAsItWas();
+        madeAsItWas();
+        readAsItWas();
+        fetchAsItWas();
+        QuasiSums x = new QuasiSums();
+        for (int v = 1; v <= 8; v++) {
+            x.put(0, 0, v);
+        }
+        x.put(0, 0, 8);
+        x.zero(1, 0);
+        due("eight", x.count(0), 8);
+        for (int left = 7; left >= 0; left--) {
+            due("back", x.back(), left);
+            due("number", x.of(0, 0), left);
+        }
+        due("the eldest stays one", x.back(), -5);
+    }
+
     private static void tape() {
         QuasiSums x = new QuasiSums();
         due("31", x.feed(31), -1);
@@ -309,6 +465,7 @@ public final class TextsTest {
     public static void main(String[] args) {
         steps();
         mostSteps();
+        nothingMadeOtherwise();
         tape();
         texts();
         faults();
