@@ -1,14 +1,5 @@
 // Promises 21 to 23: shares and cells in floats, told as bits.
-public final class FloatsTest {
-    private static int wrong = 0;
-
-    private static void due(String call, long got, long want) {
-        if (got != want) {
-            wrong++;
-            System.out.println(call + " answered " + got + ", due is " + want);
-        }
-    }
-
+public final class FloatsTest extends Bench {
     private static float shareOf(long[] numbers, int c) {
         float all = 0f;
         for (long number : numbers) {
@@ -113,9 +104,6 @@ public final class FloatsTest {
         cooling(0);
         cooling(1);
         together();
-        System.out.println(wrong == 0 ? "all answers are as due" : wrong + " answers are not as due");
-        if (wrong != 0) {
-            System.exit(1);
-        }
+        finish();
     }
 }

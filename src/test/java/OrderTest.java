@@ -1,14 +1,5 @@
 // Promises 14 to 20: the order, its rows, their descents and peaks, what it makes, how it is laid.
-public final class OrderTest {
-    private static int wrong = 0;
-
-    private static void due(String call, long got, long want) {
-        if (got != want) {
-            wrong++;
-            System.out.println(call + " answered " + got + ", due is " + want);
-        }
-    }
-
+public final class OrderTest extends Bench {
     private static void belows() {
         QuasiSums x = new QuasiSums();
         due("order 4", x.order(4), 0);
@@ -43,7 +34,7 @@ public final class OrderTest {
         due("no thing", x.isBelow(1, 1), -1);
     }
 
-    private static void dueRow(QuasiSums x, int k, int... row) {
+    private static void dueRowOf(QuasiSums x, int k, int... row) {
         for (int i = 0; i < row.length; i++) {
             due("row " + k + " place " + i, x.rowOf(k, i), row[i]);
         }
@@ -55,14 +46,14 @@ public final class OrderTest {
         x.below(2, 1);
         x.below(2, 4);
         due("how many", x.rowOf(-1, -7), 8);
-        dueRow(x, 0, 2, 1, 3, 4);
-        dueRow(x, 1, 2, 1, 4, 3);
-        dueRow(x, 2, 2, 3, 1, 4);
-        dueRow(x, 3, 2, 3, 4, 1);
-        dueRow(x, 4, 2, 4, 1, 3);
-        dueRow(x, 5, 2, 4, 3, 1);
-        dueRow(x, 6, 3, 2, 1, 4);
-        dueRow(x, 7, 3, 2, 4, 1);
+        dueRowOf(x, 0, 2, 1, 3, 4);
+        dueRowOf(x, 1, 2, 1, 4, 3);
+        dueRowOf(x, 2, 2, 3, 1, 4);
+        dueRowOf(x, 3, 2, 3, 4, 1);
+        dueRowOf(x, 4, 2, 4, 1, 3);
+        dueRowOf(x, 5, 2, 4, 3, 1);
+        dueRowOf(x, 6, 3, 2, 1, 4);
+        dueRowOf(x, 7, 3, 2, 4, 1);
         due("no row 8", x.rowOf(8, 0), -2);
         due("no row", x.rowOf(Integer.MAX_VALUE, 3), -2);
         due("no place 4", x.rowOf(8, 4), -1);
@@ -87,10 +78,10 @@ public final class OrderTest {
         due("empty row's peaks", x.marks(0, 1), 0);
         due("one empty row", x.marks(1, 1), -2);
         x.order(6);
-        dueRow(x, 719, 6, 5, 4, 3, 2, 1);
+        dueRowOf(x, 719, 6, 5, 4, 3, 2, 1);
         due("all fall", x.marks(719, 0), 31);
         due("no peak", x.marks(719, 1), 0);
-        dueRow(x, 600, 6, 1, 2, 3, 4, 5);
+        dueRowOf(x, 600, 6, 1, 2, 3, 4, 5);
     }
 
     private static void madeAndLaid() {
@@ -185,9 +176,6 @@ public final class OrderTest {
         rows();
         madeAndLaid();
         laidByTrying();
-        System.out.println(wrong == 0 ? "all answers are as due" : wrong + " answers are not as due");
-        if (wrong != 0) {
-            System.exit(1);
-        }
+        finish();
     }
 }

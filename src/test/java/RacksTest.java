@@ -1,29 +1,5 @@
 // Promises 24 to 32: racks, rows, long rows copied, rows told and judged.
-public final class RacksTest {
-    private static final long VOID = Long.MIN_VALUE;
-    private static int wrong = 0;
-
-    private static void due(String call, long got, long want) {
-        if (got != want) {
-            wrong++;
-            System.out.println(call + " answered " + got + ", due is " + want);
-        }
-    }
-
-    private static void lay(QuasiSums x, int row, int... ints) {
-        due("row", x.row(row, ints.length), 1);
-        for (int i = 0; i < ints.length; i++) {
-            due("lay", x.lay(row, i, ints[i]), 1);
-        }
-    }
-
-    private static void dueRow(String what, QuasiSums x, int row, int... ints) {
-        for (int i = 0; i < ints.length; i++) {
-            due(what + " place " + i, x.get(row, i), ints[i]);
-        }
-        due(what + ": no more", x.get(row, ints.length), VOID);
-    }
-
+public final class RacksTest extends Bench {
     private static void storing() {
         QuasiSums x = new QuasiSums();
         x.zero(1, 2);
@@ -229,9 +205,6 @@ public final class RacksTest {
         copying();
         filming();
         judging();
-        System.out.println(wrong == 0 ? "all answers are as due" : wrong + " answers are not as due");
-        if (wrong != 0) {
-            System.exit(1);
-        }
+        finish();
     }
 }

@@ -1,41 +1,5 @@
 // Promises 1 to 13: sums, their two bases, put together, multiplied, turned about, cut, counted.
-public final class SumsTest {
-    private static final long MOST = Long.MAX_VALUE, LEAST = Long.MIN_VALUE;
-    private static int wrong = 0;
-
-    private static void due(String call, long got, long want) {
-        if (got != want) {
-            wrong++;
-            System.out.println(call + " answered " + got + ", due is " + want);
-        }
-    }
-
-    private static QuasiSums with(int r, int n, long... numbers) {
-        return with(new QuasiSums(), r, n, numbers);
-    }
-
-    private static QuasiSums with(QuasiSums x, int r, int n, long... numbers) {
-        x.zero(r, n);
-        for (int c = 0; c < numbers.length; c++) {
-            x.put(r, c, numbers[c]);
-        }
-        return x;
-    }
-
-    private static void dueNumbers(String what, QuasiSums x, int r, long... numbers) {
-        due(what + ": how many", x.told(r, 1), numbers.length);
-        for (int c = 0; c < numbers.length; c++) {
-            due(what + ": number " + c, x.of(r, c), numbers[c]);
-        }
-    }
-
-    private static void dueOver(String what, QuasiSums x, int number) {
-        due(what + ": troubles", x.count(2), 1);
-        due(what + ": sort", x.why(0, 0), 4);
-        due(what + ": number", x.why(0, 1), number);
-        due(what + ": no second", x.why(1, 0), -2);
-    }
-
+public final class SumsTest extends Bench {
     private static void newObject() {
         QuasiSums x = new QuasiSums();
         for (int r = 0; r < 4; r++) {
@@ -318,9 +282,6 @@ public final class SumsTest {
         antipodes();
         cuts();
         countings();
-        System.out.println(wrong == 0 ? "all answers are as due" : wrong + " answers are not as due");
-        if (wrong != 0) {
-            System.exit(1);
-        }
+        finish();
     }
 }

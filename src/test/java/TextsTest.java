@@ -1,41 +1,9 @@
 // Promises 33 to 40: steps taken back, the tape, texts with reasons, the image, what is counted.
-public final class TextsTest {
-    private static int wrong = 0;
-
-    private static void due(String call, long got, long want) {
-        if (got != want) {
-            wrong++;
-            System.out.println(call + " answered " + got + ", due is " + want);
-        }
-    }
-
-    private static int read(QuasiSums x, int r, String text) {
-        for (int i = 0; i < text.length(); i++) {
-            due("feed", x.feed(text.charAt(i)), i + 1);
-        }
-        return x.read(r);
-    }
-
-    private static void dueNumbers(String what, QuasiSums x, int r, long... numbers) {
-        due(what + ": how many", x.told(r, 1), numbers.length);
-        for (int c = 0; c < numbers.length; c++) {
-            due(what + ": number " + c, x.of(r, c), numbers[c]);
-        }
-    }
-
-    private static void dueTrouble(String what, QuasiSums x, int term, int sort, int number) {
-        due(what + ": troubles", x.count(2), 2);
-        due(what + ": first sort", x.why(0, 0), 2);
-        due(what + ": term", x.why(0, 1), term);
-        due(what + ": second sort", x.why(1, 0), sort);
-        due(what + ": number", x.why(1, 1), number);
-        due(what + ": no third", x.why(2, 0), -2);
-    }
-
+public final class TextsTest extends Bench {
     private static void dueFault(String text, int fault, int term) {
         QuasiSums x = new QuasiSums();
         due(text, read(x, 0, text), -100 - fault);
-        dueTrouble(text, x, term, 1, fault);
+        dueTroubles(text, x, term, 1, fault);
         due(text + ": tape", x.count(1), 0);
         due(text + ": steps", x.count(0), 0);
     }
@@ -43,7 +11,7 @@ public final class TextsTest {
     private static void dueUnlike(String text, int term, int together) {
         QuasiSums x = new QuasiSums();
         due(text, read(x, 0, text), -5);
-        dueTrouble(text, x, term, 3, together);
+        dueTroubles(text, x, term, 3, together);
         due(text + ": tape", x.count(1), 0);
         due(text + ": weight", x.told(0, 0), 0);
         due(text + ": steps", x.count(0), 0);
@@ -286,7 +254,7 @@ public final class TextsTest {
         due("80 bytes", read(x, 0, "2" + terms), 0);
         due("80 bytes", x.of(0, 0), 2 - 19);
         due("80 bytes, a term lacks", read(x, 0, terms + "+"), -180);
-        dueTrouble("80 bytes, a term lacks", x, 20, 1, 80);
+        dueTroubles("80 bytes, a term lacks", x, 20, 1, 80);
     }
 
     private static void texts() {
@@ -368,9 +336,9 @@ public final class TextsTest {
         x.fundamental(0, 0, 1);
         due("why of OVER", x.why(0, 0), 4);
         read(x, 0, "M(7");
-        dueTrouble("the latest", x, 0, 1, 2);
+        dueTroubles("the latest", x, 0, 1, 2);
         due("read well", read(x, 1, "M(1)"), 1);
-        dueTrouble("read well leaves why", x, 0, 1, 2);
+        dueTroubles("read well leaves why", x, 0, 1, 2);
         x.counts(0, 3);
         due("counts of one is no OVER", x.count(2), 2);
         due("OVER again", x.fundamental(0, 0, 1), -9);
@@ -440,7 +408,7 @@ public final class TextsTest {
         why.image();
         read(why, 0, "M(");
         why.restore();
-        dueTrouble("restore leaves why", why, 0, 1, 2);
+        dueTroubles("restore leaves why", why, 0, 1, 2);
     }
 
     private static void counts() {
@@ -472,9 +440,6 @@ public final class TextsTest {
         unlike();
         images();
         counts();
-        System.out.println(wrong == 0 ? "all answers are as due" : wrong + " answers are not as due");
-        if (wrong != 0) {
-            System.exit(1);
-        }
+        finish();
     }
 }
