@@ -903,6 +903,8 @@ public final class QuasiSums {
         private final int[] lower;
         /** At each set of things, told as bits: in how many ways a row goes on behind them. */
         private final int[] endings;
+        /** What it makes, once that has been asked for. */
+        private Sum itsSum = null;
 
         Order(int size) {
             this(size, new int[HEAVIEST + 1]);
@@ -1006,21 +1008,34 @@ public final class QuasiSums {
         }
 
         Sum makes() {
-            long[] times = new long[Bits.howMany(size)];
-            int[] row = new int[size];
-            for (int k = 0; k < howManyRows(); k++) {
-                tellRow(k, row);
+            if (itsSum == null) {
+                long[] times = new long[Bits.howMany(size)];
+                countDescents(this, 0, 0, new int[size], times);
+                Sum all = new Sum(size);
+                Longs longs = new Longs();
+                for (int c = 0; c < times.length; c++) {
+                    all.comesToFiner(c, times[c], longs);
+                }
+                itsSum = all;
+            }
+            return itsSum;
+        }
+
+        /** Counts in times the descents of each row that begins so; told has the things of its first places, as bits. */
+        private static void countDescents(Order order, int told, int place, int[] row, long[] times) {
+            if (place >= row.length) {
                 int c = descents(row);
                 if (within(c, times.length)) {
                     times[c]++;
                 }
+                return;
             }
-            Sum all = new Sum(size);
-            Longs longs = new Longs();
-            for (int c = 0; c < times.length; c++) {
-                all.comesToFiner(c, times[c], longs);
+            for (int v = 1; v <= order.size; v++) {
+                if (order.canCome(v, told)) {
+                    row[place] = v;
+                    countDescents(order, told | 1 << (v - 1), place + 1, row, times);
+                }
             }
-            return all;
         }
 
         int firstWrong(int[] row) {

@@ -114,12 +114,45 @@ public final class FloatEdgesTest extends Bench {
         due("from 0 on", x.warmth(0), bits(1f + 1f / (1 << 23)));
     }
 
-    static void warmthBelowNothing() {
-        says("warmth: as bits (below 0)");
-        QuasiSums x = with(0, 0, -1);
-        x.warm(3, 0, 0);
-        due("floats, with an int's sign", x.warmth(0), bits(-1f));
-        due("doubles", x.warmth(1), Double.doubleToRawLongBits(-1d));
+    static void warmthOfMany() {
+        says("warmth: All CELLS together (as warm as six can be)");
+        QuasiSums x = with(0, 2, 1, 0);
+        float cell = 0f;
+        for (int n = 0; n < 30; n++) {
+            cell = cell * 0.5f + 1f;
+            for (int i = 0; i < 6; i++) {
+                x.warm(i, 0, 0);
+            }
+            float all = cell + cell + cell + cell + cell + cell;
+            double wide = 0d + cell + cell + cell + cell + cell + cell;
+            due("floats", x.warmth(0), bits(all));
+            due("doubles", x.warmth(1), Double.doubleToRawLongBits(wide));
+        }
+        due("floats at the end", x.warmth(0), bits(12f));
+    }
+
+    static void warmthOfWholeOnes() {
+        says("warmth: as bits (of whole numbers)");
+        for (int sign = -1; sign <= 1; sign += 2) {
+            QuasiSums x = with(0, 0, sign);
+            for (int cell = 0; cell < 6; cell++) {
+                x.warm(cell, 0, 0);
+                due("floats", x.warmth(0), bits(sign * (cell + 1f)));
+                due("doubles", x.warmth(1), Double.doubleToRawLongBits(sign * (cell + 1d)));
+            }
+        }
+    }
+
+    static void warmthInParts() {
+        says("warmth: in doubles, as bits (of a part)");
+        QuasiSums x = with(0, 2, 1, -2);
+        x.warm(4, 0, 0);
+        due("a third", x.warmth(1), Double.doubleToRawLongBits(1f / 3f));
+        x.warm(2, 0, 1);
+        due("a third less two", x.warmth(1), Double.doubleToRawLongBits((double) (-2f / 3f) + (double) (1f / 3f)));
+        x.warm(0, 0, 0);
+        due("none", x.warmth(1), 0);
+        due("none in floats", x.warmth(0), 0);
     }
 
     public static void main(String[] args) {

@@ -149,6 +149,8 @@ public final class OverEdgesTest extends Bench {
         with(x, 0, 2, 0, MOST / 2);
         dueOver(x, "three ways", x.multiply(2, 0, 1), 3);
         dueNumbers(x, 2, MOST - 1, MOST, MOST, 3);
+        dueOver(x, "onto itself", x.multiply(0, 0, 1), 3);
+        dueNumbers(x, 0, 0, MOST / 2);
     }
 
     static void productOrder() {

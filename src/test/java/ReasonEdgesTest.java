@@ -36,6 +36,17 @@ public final class ReasonEdgesTest extends Bench {
         }
     }
 
+    static void causes() {
+        says("TROUBLES, each but the last with a CAUSE behind it (one of OVER, two of a read)");
+        QuasiSums x = with(0, 0, MOST);
+        x.fundamental(0, 0, 1);
+        due("of OVER", x.count(2), 1);
+        x.read(0);
+        due("of a read", x.count(2), 2);
+        x.fundamental(0, 0, 1);
+        due("of OVER again", x.count(2), 1);
+    }
+
     static void theLatest() {
         says("WHY tells of the latest call");
         QuasiSums x = with(0, 1, MOST);

@@ -109,6 +109,18 @@ public final class RegisterEdgesTest extends Bench {
         due("no WHY", x.count(2), 0);
     }
 
+    static void inFApart() {
+        says("F NUMBER: with the other sign, if the LENGTHS of c and b are an odd number apart");
+        for (int n = 0; n <= 6; n++) {
+            QuasiSums x = with(0, n, 1);
+            for (int c = 0; c < x.told(0, 1); c++) {
+                due("of " + n + ", of " + c, x.inF(0, c), Integer.bitCount(c) % 2 == 0 ? 1 : -1);
+            }
+        }
+        QuasiSums x = with(0, 0, 5);
+        due("of the empty one", x.inF(0, 0), 5);
+    }
+
     static void toldBad() {
         says("told: BAD");
         QuasiSums x = with(3, 3, 0, 7, 0, -7);
@@ -134,6 +146,15 @@ public final class RegisterEdgesTest extends Bench {
         }
         due("r 3", x.sum(3, 2, 2), 1);
         dueNumbers(x, 3, 10);
+    }
+
+    static void stateAheadOfOver() {
+        says("of several the first as the call's words name them (STATE ahead of OVER)");
+        QuasiSums x = with(0, 1, MOST);
+        with(x, 1, 6, MOST);
+        due("sum", x.sum(2, 0, 1), STATE);
+        due("multiply", x.multiply(2, 0, 1), STATE);
+        due("no WHY", x.count(2), 0);
     }
 
     static void sumState() {
@@ -173,6 +194,25 @@ public final class RegisterEdgesTest extends Bench {
         with(x, 2, 1, 9);
         due("6 and 1", x.multiply(2, 0, 2), STATE);
         dueNumbers(x, 2, 9);
+    }
+
+    static void productOfSix() {
+        says("PRODUCT of two (WEIGHTS 6 together): each way till nothing is left");
+        QuasiSums x = with(0, 3, 1);
+        due("3 by 3", x.multiply(1, 0, 0), 6);
+        due("6", x.of(1, 0), 1);
+        due("3, 3", x.of(1, 4), 2);
+        due("no more", x.told(1, 2), 2);
+        with(x, 0, 3, 0, 0, 0, 1);
+        due("1, 1, 1 by 1, 1, 1", x.multiply(1, 0, 0), 6);
+        due("1, 1, 1, 1, 1, 1", x.of(1, 31), 20);
+        due("2, 2, 2", x.of(1, 10), 1);
+        due("6 is none", x.of(1, 0), 0);
+        with(x, 0, 6, 0, 3);
+        with(x, 2, 0, 5);
+        due("6 by none", x.multiply(1, 0, 2), 6);
+        due("1, 5", x.of(1, 1), 15);
+        due("no more", x.told(1, 2), 1);
     }
 
     static void productOfNothing() {
