@@ -69,7 +69,7 @@ public final class FloatsTest extends Bench {
         QuasiSums x = new QuasiSums();
         float[] cells = new float[6];
         java.util.Random random = new java.util.Random(5);
-        for (int n = 0; n < 120; n++) {
+        for (int n = 0; n < 80; n++) {
             long[] numbers = {random.nextLong() >> random.nextInt(64), random.nextLong() >> random.nextInt(64)};
             x.zero(1, 2);
             x.put(1, 0, numbers[0]);
