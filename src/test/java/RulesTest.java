@@ -73,6 +73,18 @@ public final class RulesTest {
             }
         }
         due("classes inside", QuasiSums.class.getDeclaredClasses().length <= 12, true);
+        sizes(QuasiSums.class);
+        for (Class<?> inside : QuasiSums.class.getDeclaredClasses()) {
+            sizes(inside);
+        }
+    }
+
+    private static void sizes(Class<?> one) {
+        for (Method method : one.getDeclaredMethods()) {
+            due(one + " " + method.getName() + " has seven parameters at most", method.getParameterCount() <= 7, true);
+        }
+        long fields = Arrays.stream(one.getDeclaredFields()).filter(f -> !Modifier.isStatic(f.getModifiers())).count();
+        due(one + " has twenty fields at most", fields <= 20, true);
     }
 
     private static void constants() throws IllegalAccessException {
@@ -92,6 +104,7 @@ public final class RulesTest {
     private static void text() throws IOException {
         String text = Files.readString(Path.of("src/main/java/QuasiSums.java"));
         String code = text.replaceAll("(?s)/\\*.*?\\*/", "").replaceAll("//[^\n]*", "");
+        due("signs 1 to 127 alone", text.chars().allMatch(sign -> sign >= 1 && sign <= 127), true);
         for (String pattern : FORBIDDEN) {
             Matcher matcher = Pattern.compile(pattern, Pattern.MULTILINE).matcher(code);
             due(pattern, matcher.find() ? "found: " + matcher.group() : "none", "none");
